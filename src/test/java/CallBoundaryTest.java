@@ -139,6 +139,15 @@ public final class CallBoundaryTest {
         }
     }
 
+    /** Refused for every watch, set or not, paused or skipping. */
+    private static void setRefused(int first, int length, int kind, int want) {
+        for (int i = 0; i < 8; i++) {
+            int watch = i;
+            due.changesNothing("set(" + watch + ", " + first + ", " + length + ", " + kind + ")",
+                    x -> x.set(watch, first, length, kind), want);
+        }
+    }
+
     private static void setTakesLengths1To16() {
         for (int length = 1; length <= 16; length++) {
             WatchpointUnit x = new WatchpointUnit();
@@ -153,7 +162,7 @@ public final class CallBoundaryTest {
 
     private static void setRefusesOtherLengths() {
         for (int length : NO_LENGTH) {
-            due.changesNothing("set(2, 0, " + length + ", 1)", x -> x.set(2, 0, length, 1), -2);
+            setRefused(0, length, 1, -2);
         }
     }
 
@@ -168,11 +177,9 @@ public final class CallBoundaryTest {
 
     private static void setRefusesFirstBelow0() {
         for (int length = 1; length <= 16; length++) {
-            int size = length;
-            for (int first : new int[] {-1, -2, -size, -size + 1, -40, MIN, MIN + 1, MIN + 39}) {
+            for (int first : new int[] {-1, -2, -length, -length + 1, -40, MIN, MIN + 1, MIN + 39}) {
                 if (first < 0) {
-                    due.changesNothing("set(4, " + first + ", " + size + ", 1)",
-                            x -> x.set(4, first, size, 1), -3);
+                    setRefused(first, length, 1, -3);
                 }
             }
         }
@@ -190,21 +197,17 @@ public final class CallBoundaryTest {
 
     private static void setRefusesRangePastTheEnd() {
         for (int length = 1; length <= 16; length++) {
-            int size = length;
-            for (int first : new int[] {41 - size, 42 - size, 40, 41, 256}) {
-                due.changesNothing("set(4, " + first + ", " + size + ", 1)",
-                        x -> x.set(4, first, size, 1), -3);
+            for (int first : new int[] {41 - length, 42 - length, 40, 41, 256}) {
+                setRefused(first, length, 1, -3);
             }
         }
     }
 
     private static void setRefusesSumsThatWrapAround() {
         for (int length = 1; length <= 16; length++) {
-            int size = length;
-            for (int first : new int[] {MAX, MAX - size + 2, MAX - size + 1, MAX - size, MAX - 15}) {
+            for (int first : new int[] {MAX, MAX - length + 2, MAX - length + 1, MAX - length, MAX - 15}) {
                 if (first > 0) {
-                    due.changesNothing("set(4, " + first + ", " + size + ", 1)",
-                            x -> x.set(4, first, size, 1), -3);
+                    setRefused(first, length, 1, -3);
                 }
             }
         }
@@ -225,8 +228,8 @@ public final class CallBoundaryTest {
 
     private static void setRefusesOtherKinds() {
         for (int kind : NO_KIND) {
-            due.changesNothing("set(4, 5, 6, " + kind + ")", x -> x.set(4, 5, 6, kind), -4);
-            due.changesNothing("set(3, 24, 16, " + kind + ")", x -> x.set(3, 24, 16, kind), -4);
+            setRefused(5, 6, kind, -4);
+            setRefused(24, 16, kind, -4);
         }
     }
 

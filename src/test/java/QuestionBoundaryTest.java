@@ -3,6 +3,7 @@ public final class QuestionBoundaryTest {
     private static final int MIN = Integer.MIN_VALUE;
     private static final int MAX = Integer.MAX_VALUE;
     private static final int[] NO_WATCH = {-1, 8, -2, 9, -8, 16, 256, MIN, MIN + 7, MAX};
+    private static final int FILLING = 32;
     private static final Due due = new Due();
 
     public static void main(String[] args) {
@@ -214,8 +215,12 @@ public final class QuestionBoundaryTest {
 
     // Promise 14 and the numbers of the kept stops
 
+    /** Stop i, from 1, was the access FILLING + i: it wrote 100 + i over 1 + i at i - 1. */
     private static WatchpointUnit afterStops(int count) {
         WatchpointUnit x = new WatchpointUnit();
+        for (int i = 1; i <= FILLING; i++) {
+            x.store(i - 1, 1, 1 + i);
+        }
         x.set(0, 0, 16, 3);
         x.set(1, 16, 16, 3);
         for (int i = 1; i <= count; i++) {
@@ -225,28 +230,28 @@ public final class QuestionBoundaryTest {
     }
 
     private static void keptIsAtMostEight() {
-        for (int count = 0; count <= 32; count++) {
+        for (int count = 0; count <= FILLING; count++) {
             is("14: kept() after " + count, afterStops(count).kept(), count < 8 ? count : 8);
         }
     }
 
     private static void everyNumberFrom0ToKeptIsAnswered() {
-        for (int count = 0; count <= 32; count++) {
+        for (int count = 0; count <= FILLING; count++) {
             WatchpointUnit x = afterStops(count);
             for (int stop = 0; stop < 8 && stop < count; stop++) {
                 String which = "(" + stop + ") of " + count;
                 int i = count - stop;
                 is("15: stopMask" + which, x.stopMask(stop), i <= 16 ? 1 : 2);
                 is("16: stopAddress" + which, x.stopAddress(stop), i - 1);
-                is("17: stopNumber" + which, x.stopNumber(stop), i);
-                is("18: before" + which, x.before(stop), 0);
+                is("17: stopNumber" + which, x.stopNumber(stop), FILLING + i);
+                is("18: before" + which, x.before(stop), 1 + i);
                 is("19: after" + which, x.after(stop), 100 + i);
             }
         }
     }
 
     private static void otherNumbersAreNoStops() {
-        for (int count = 0; count <= 32; count++) {
+        for (int count = 0; count <= FILLING; count++) {
             int kept = count < 8 ? count : 8;
             for (int stop : new int[] {-1, kept, kept + 1, 8, 9, -8, 256, MIN, MIN + 1, MAX}) {
                 WatchpointUnit x = afterStops(count);
@@ -262,16 +267,16 @@ public final class QuestionBoundaryTest {
 
     private static void theOldestIsDropped() {
         WatchpointUnit x = afterStops(8);
-        is("17: the first is the oldest of eight", x.stopNumber(7), 1);
+        is("17: the first is the oldest of eight", x.stopNumber(7), FILLING + 1);
         x.store(8, 1, 1);
-        is("17: the second is the oldest now", x.stopNumber(7), 2);
-        is("17: the ninth is the latest", x.stopNumber(0), 9);
+        is("17: the second is the oldest now", x.stopNumber(7), FILLING + 2);
+        is("17: the ninth is the latest", x.stopNumber(0), FILLING + 9);
     }
 
     private static void aDroppedStopIsNotAnswered() {
         WatchpointUnit x = afterStops(9);
         for (int stop = 0; stop < 8; stop++) {
-            is("17: not the first any more", x.stopNumber(stop) == 1 ? 1 : 0, 0);
+            due.isTrue("17: " + stop + " is not the first", x.stopNumber(stop) != FILLING + 1);
         }
         is("17: none after the eight", x.stopNumber(8), -1);
     }
