@@ -210,4 +210,19 @@ final class Model {
         }
         return answer;
     }
+
+    // Two things that the class does not tell, for tests that must know what a run has come to.
+
+    boolean isPaused(int watch) {
+        return refused(watch) == 0 && watches[watch].paused;
+    }
+
+    /** How many set watches have a range with which so many bytes at an address overlap. */
+    int rangesAt(int address, int size) {
+        int answer = 0;
+        for (Watch w : watches) {
+            answer += w != null && w.first < (long) address + size && address < w.first + w.length ? 1 : 0;
+        }
+        return answer;
+    }
 }
